@@ -100,6 +100,7 @@ public final class CubeStore {
     private static final int LIST = 2;
     private static final int RUNS = 3;
     private static final int STEPS = 4;
+    private static final int FORMS = 5;
 
     private static final int CATALOG_EXTENT = 1;
     private static final int LOAD_EXTENT = 2;
@@ -673,7 +674,10 @@ public final class CubeStore {
             }
             long value = 0;
             for (; at < length && bytes[at] >= '0' && bytes[at] <= '9'; at++) {
-                value = Math.min(value * 10 + bytes[at] - '0', Long.MAX_VALUE / 20);
+                // It grows no more once it can't be an int again, with or without a - before it.
+                if (value <= 1L << 32) {
+                    value = value * 10 + bytes[at] - '0';
+                }
             }
             value = isNegative ? -value : value;
             number = (int) value;
@@ -981,34 +985,35 @@ public final class CubeStore {
             text.next();
             int kind = text.kind;
             if (kind == BETWEEN) {
-                long low = numberBehind();
+                text.expect(NUMBER);
+                int low = text.number;
                 text.expect(AND);
-                question.admit(low, numberBehind());
-            } else if (kind == IN) {
+                text.expect(NUMBER);
+                question.admit(low, text.number);
+            } else if (kind == IN || kind == NOT) {
+                if (kind == NOT) {
+                    text.expect(IN);
+                }
                 readList();
-            } else if (kind == NOT) {
-                text.expect(IN);
-                readList();
-                question.turnComparison();
+            } else if (kind == '=' || kind == '<' || kind == '>' || kind >= AT_MOST && kind <= UNLIKE) {
+                text.expect(NUMBER);
+                admitBeside(kind, text.number);
             } else {
-                readPlainComparison(kind);
+                text.failHere();
+            }
+            if (kind == NOT || kind >= AT_MOST && kind <= UNLIKE) {
+                question.turnComparison();
             }
         }
 
-        private void readPlainComparison(int kind) {
-            if (kind != '=' && kind != '<' && kind != '>' && kind != UNLIKE && kind != AT_MOST && kind != AT_LEAST) {
-                text.failHere();
-            }
-            long number = numberBehind();
+        /** Admits what = < > say; for <> >= <= these very values, as the comparison is turned then. */
+        private void admitBeside(int kind, long number) {
             if (kind == '<' || kind == AT_LEAST) {
                 question.admit(Integer.MIN_VALUE, number - 1);
             } else if (kind == '>' || kind == AT_MOST) {
                 question.admit(number + 1, Integer.MAX_VALUE);
             } else {
                 question.admit(number, number);
-            }
-            if (kind == UNLIKE || kind == AT_MOST || kind == AT_LEAST) {
-                question.turnComparison();
             }
         }
 
@@ -1109,11 +1114,6 @@ public final class CubeStore {
                 text.fail(NAME_FAULT, text.start);
             }
             return dimension * MOST_LEVELS + level;
-        }
-
-        private int numberBehind() {
-            text.expect(NUMBER);
-            return text.number;
         }
 
         private void needNewName() {
@@ -1547,6 +1547,9 @@ public final class CubeStore {
     /** The rows of an answer, found by their group columns while facts or rows of a view come in. */
     private static final class Answer {
         private static final int SLOTS = 8192;
+        private static final int HASH_TIMES = 0x9E3779B1;
+        /** So much of a hash is left out that the rest of it is a slot. */
+        private static final int HASH_SHIFT = 19;
         /** Places are those of the group columns' values (behind all others for ALL), amounts are the items. */
         final Rows found = new Rows(MOST_ANSWER_ROWS, MOST_ITEMS);
         private final long[] facts = new long[MOST_ANSWER_ROWS];
@@ -1679,9 +1682,9 @@ public final class CubeStore {
         private int rowFor(Question question, int mask) {
             int hash = 0;
             for (int g = 0; g < question.groups; g++) {
-                hash = (hash + ((mask >> g & 1) != 0 ? ranks[g] : lasts[g])) * 0x9E3779B1;
+                hash = (hash + ((mask >> g & 1) != 0 ? ranks[g] : lasts[g])) * HASH_TIMES;
             }
-            int slot = hash >>> 19;
+            int slot = hash >>> HASH_SHIFT;
             for (int i = 0; i < SLOTS; i++) {
                 int r = slots[slot];
                 if (r == NONE) {
@@ -1724,6 +1727,7 @@ public final class CubeStore {
     /** A row of bits that is written or read from a place on, and the five forms of columns on it. */
     private static final class Tape {
         private static final int SLOTS = 4 * SEGMENT;
+        private static final long HASH_TIMES = 0x9E3779B97F4A7C15L;
         private final long[] words;
         private final int limit;
         int at;
@@ -1732,6 +1736,9 @@ public final class CubeStore {
         private final int[] slots = new int[SLOTS];
         private final long[] list = new long[SEGMENT];
         private final int[] index = new int[SEGMENT];
+        /** What the last survey of a column found: by form how long a cell and how long the whole is. */
+        private final int[] cellBits = new int[FORMS];
+        private final int[] formBytes = new int[FORMS];
         private int different;
         private int stretches;
         private long least;
@@ -1812,8 +1819,10 @@ public final class CubeStore {
                 return;
             }
             survey(cells, n);
-            int form = shortestForm(n);
-            int bytes = formBytes(form, n);
+            listCells(cells, n);
+            weigh(n);
+            int form = shortestForm();
+            int bytes = formBytes[form];
             if (bytes + COLUMN_BYTES > (limit - at) / 8) {
                 isOver = true;
                 return;
@@ -1823,7 +1832,13 @@ public final class CubeStore {
             put(least, 64);
             put(greatest, 64);
             int end = at + bytes * 8;
-            writeForm(form, cells, n);
+            if (form == LIST) {
+                writeList(n);
+            } else if (form == RUNS) {
+                writeRuns(cells, n);
+            } else {
+                writeNumbers(form, cells, n);
+            }
             at = end;
         }
 
@@ -1833,7 +1848,13 @@ public final class CubeStore {
             take(64);
             take(64);
             int end = Math.min(limit, at + bytes * 8);
-            readForm(form, cells, n);
+            if (form == LIST) {
+                readList(cells, n);
+            } else if (form == RUNS) {
+                readRuns(cells, n);
+            } else {
+                readNumbers(form, cells, n);
+            }
             at = end;
         }
 
@@ -1843,32 +1864,24 @@ public final class CubeStore {
             at = Math.min(limit, at + 128 + bytes * 8);
         }
 
-        private void writeForm(int form, long[] cells, int n) {
-            int bits = cellBits(form);
-            if (form == RUNS) {
-                writeRuns(cells, n);
-                return;
+        private void writeList(int n) {
+            put(different, 16);
+            for (int i = 0; i < different; i++) {
+                put(list[i], 64);
             }
-            if (form == LIST) {
-                put(different, 16);
-                for (int i = 0; i < different; i++) {
-                    put(list[i], 64);
-                }
-                for (int i = 0; i < n; i++) {
-                    put(index[i], bits);
-                }
-                return;
+            for (int i = 0; i < n; i++) {
+                put(index[i], cellBits[LIST]);
             }
-            if (form != PLAIN) {
-                put(form == STEPS ? cells[0] : least, 64);
-                if (form == STEPS) {
-                    put(leastStep, 64);
-                }
-                put(bits, 8);
+        }
+
+        private void readList(long[] cells, int n) {
+            int entries = (int) Math.min(take(16), SEGMENT);
+            for (int i = 0; i < entries; i++) {
+                list[i] = take(64);
             }
-            for (int i = form == STEPS ? 1 : 0; i < n; i++) {
-                long base = form == PLAIN ? 0 : form == PACKED ? least : cells[i - 1] + leastStep;
-                put(cells[i] - base, bits);
+            int bits = bitsOf(entries - 1);
+            for (int i = 0; i < n; i++) {
+                cells[i] = list[(int) Math.min(take(bits), SEGMENT - 1)];
             }
         }
 
@@ -1884,47 +1897,53 @@ public final class CubeStore {
             }
         }
 
-        private void readForm(int form, long[] cells, int n) {
-            if (form == RUNS) {
-                readRuns(cells, n);
-                return;
-            }
-            if (form == LIST) {
-                int entries = takeUpTo(16, SEGMENT);
-                for (int i = 0; i < entries; i++) {
-                    list[i] = take(64);
-                }
-                int bits = bitsOf(entries - 1);
-                for (int i = 0; i < n; i++) {
-                    cells[i] = list[takeUpTo(bits, SEGMENT - 1)];
-                }
-                return;
-            }
-            long base = form == PLAIN ? 0 : take(64);
-            long step = form == STEPS ? take(64) : 0;
-            int bits = form == PLAIN ? 64 : takeUpTo(8, 64);
-            for (int i = 0; i < n; i++) {
-                if (form == STEPS) {
-                    base = i == 0 ? base : cells[i - 1] + step;
-                    cells[i] = i == 0 ? base : base + take(bits);
-                } else {
-                    cells[i] = base + take(bits);
-                }
-            }
-        }
-
         private void readRuns(long[] cells, int n) {
-            int left = takeUpTo(16, SEGMENT);
+            int left = (int) take(16);
             int done = 0;
             for (; left > 0; left--) {
                 long cell = take(64);
-                int end = Math.min(n, done + takeUpTo(16, SEGMENT));
+                int end = (int) Math.min(n, done + take(16));
                 Arrays.fill(cells, done, end, cell);
                 done = end;
             }
         }
 
-        /** Finds what the weights of all forms depend on. */
+        /** The forms that have one number for each cell: itself, how far it is above the least, or its step. */
+        private void writeNumbers(int form, long[] cells, int n) {
+            int bits = cellBits[form];
+            if (form == STEPS) {
+                put(cells[0], 64);
+                put(leastStep, 64);
+                put(bits, 8);
+                for (int i = 1; i < n; i++) {
+                    put(cells[i] - cells[i - 1] - leastStep, bits);
+                }
+                return;
+            }
+            long base = 0;
+            if (form == PACKED) {
+                base = least;
+                put(base, 64);
+                put(bits, 8);
+            }
+            for (int i = 0; i < n; i++) {
+                put(cells[i] - base, bits);
+            }
+        }
+
+        private void readNumbers(int form, long[] cells, int n) {
+            long base = form == PLAIN ? 0 : take(64);
+            long step = form == STEPS ? take(64) : 0;
+            int bits = form == PLAIN ? 64 : (int) Math.min(take(8), 64);
+            for (int i = 0; i < n; i++) {
+                if (form != STEPS) {
+                    cells[i] = base + take(bits);
+                } else {
+                    cells[i] = i == 0 ? base : cells[i - 1] + step + take(bits);
+                }
+            }
+        }
+
         private void survey(long[] cells, int n) {
             least = cells[0];
             greatest = cells[0];
@@ -1941,16 +1960,15 @@ public final class CubeStore {
                     stretches++;
                 }
             }
-            listCells(cells, n);
         }
 
+        /** Lists the different cells as they come, with the place in the list of each cell. */
         private void listCells(long[] cells, int n) {
             int mask = 4 * Integer.highestOneBit(n) - 1;
             Arrays.fill(slots, 0, mask + 1, NONE);
             different = 0;
             for (int i = 0; i < n; i++) {
-                long mixed = cells[i] * 0x9E3779B97F4A7C15L;
-                int slot = (int) (mixed >>> 40) & mask;
+                int slot = (int) (cells[i] * HASH_TIMES >>> 40) & mask;
                 for (int tries = 0; tries < SLOTS; tries++) {
                     if (slots[slot] == NONE || list[slots[slot]] == cells[i]) {
                         break;
@@ -1965,42 +1983,26 @@ public final class CubeStore {
             }
         }
 
-        private int shortestForm(int n) {
+        private void weigh(int n) {
+            cellBits[PLAIN] = 64;
+            cellBits[PACKED] = bitsOf(greatest - least);
+            cellBits[LIST] = bitsOf(different - 1);
+            cellBits[STEPS] = bitsOf(greatestStep - leastStep);
+            formBytes[PLAIN] = 8 * n;
+            formBytes[PACKED] = 9 + (n * cellBits[PACKED] + 7) / 8;
+            formBytes[LIST] = 2 + 8 * different + (n * cellBits[LIST] + 7) / 8;
+            formBytes[RUNS] = 2 + 10 * stretches;
+            formBytes[STEPS] = 17 + ((n - 1) * cellBits[STEPS] + 7) / 8;
+        }
+
+        private int shortestForm() {
             int best = PLAIN;
-            for (int form = PACKED; form <= STEPS; form++) {
-                if (formBytes(form, n) < formBytes(best, n)) {
+            for (int form = PACKED; form < FORMS; form++) {
+                if (formBytes[form] < formBytes[best]) {
                     best = form;
                 }
             }
             return best;
-        }
-
-        private int formBytes(int form, int n) {
-            switch (form) {
-                case PACKED:
-                    return 9 + (n * cellBits(form) + 7) / 8;
-                case LIST:
-                    return 2 + 8 * different + (n * cellBits(form) + 7) / 8;
-                case RUNS:
-                    return 2 + 10 * stretches;
-                case STEPS:
-                    return 17 + ((n - 1) * cellBits(form) + 7) / 8;
-                default:
-                    return 8 * n;
-            }
-        }
-
-        private int cellBits(int form) {
-            switch (form) {
-                case PACKED:
-                    return bitsOf(greatest - least);
-                case LIST:
-                    return bitsOf(different - 1);
-                case STEPS:
-                    return bitsOf(greatestStep - leastStep);
-                default:
-                    return 64;
-            }
         }
 
         private static int bitsOf(long number) {
@@ -2282,6 +2284,7 @@ public final class CubeStore {
 
     /** A table, the facts' or a view's, as it goes to the disk and comes from it segment by segment. */
     private static final class Table {
+        private static final long ALL_COLUMNS = -1L;
         private final Catalog catalog;
         final long[][] cells = new long[MOST_COLUMNS][SEGMENT];
         /** What the disk has, when it is checked against the cells. */
@@ -2292,12 +2295,8 @@ public final class CubeStore {
         private int places;
         private int columns;
         private boolean isView;
-        private boolean isChecking;
+        /** How many rows of the cells are filled. */
         private int size;
-        private int total;
-        private int partPlace;
-        private int onDisk;
-        private int wrong;
 
         Table(Catalog catalog) {
             this.catalog = catalog;
@@ -2372,39 +2371,56 @@ public final class CubeStore {
         }
 
         void writeFacts(Rows facts, Tape tape) {
-            isChecking = false;
-            beginPart(tape);
-            for (int i = 0; i < facts.size; i++) {
-                int row = facts.order[i];
-                makeRow(tape);
-                for (int d = 0; d < places; d++) {
-                    cells[d][size - 1] = facts.places[d][row];
+            tape.put(facts.size, 32);
+            for (int from = 0; from < facts.size && !tape.isOver; from += SEGMENT) {
+                size = Math.min(SEGMENT, facts.size - from);
+                for (int i = 0; i < size; i++) {
+                    int row = facts.order[from + i];
+                    for (int d = 0; d < places; d++) {
+                        cells[d][i] = facts.places[d][row];
+                    }
+                    for (int m = 0; m < catalog.measures; m++) {
+                        cells[places + m][i] = facts.amounts[m][row];
+                    }
                 }
-                for (int m = 0; m < catalog.measures; m++) {
-                    cells[places + m][size - 1] = facts.amounts[m][row];
-                }
+                writeSegment(tape);
             }
-            endPart(tape);
         }
 
         /** Writes the part of a view that sorted facts give: how many rows it has. */
         int writeView(Rows facts, Tape tape) {
-            isChecking = false;
-            sumUp(facts, tape);
-            return total;
+            int rowsPlace = tape.at;
+            tape.put(0, 32);
+            int rows = 0;
+            int from = 0;
+            for (int s = 0; s < MOST_FACTS && from < facts.size && !tape.isOver; s++) {
+                from = sumUp(facts, from);
+                writeSegment(tape);
+                rows += size;
+            }
+            tape.fillIn(rowsPlace, rows, 32);
+            return rows;
         }
 
         /** How many rows of the part on the tape are not what sorted facts give. */
         int checkView(Rows facts, Tape tape) {
-            isChecking = true;
-            sumUp(facts, tape);
-            return wrong;
+            int onDisk = beginReading(tape);
+            int rows = 0;
+            int wrong = 0;
+            int from = 0;
+            for (int s = 0; s < MOST_FACTS && from < facts.size; s++) {
+                from = sumUp(facts, from);
+                wrong += wrongRows(rows < onDisk ? readSegment(tape, ALL_COLUMNS, diskCells) : 0);
+                rows += size;
+            }
+            return wrong + Math.max(0, onDisk - rows);
         }
 
         int beginReading(Tape tape) {
             return tape.takeUpTo(32, MOST_FACTS);
         }
 
+        /** Reads the wanted columns of a segment (they are bits): how many rows it has. */
         int readSegment(Tape tape, long wanted, long[][] into) {
             int rows = tape.takeUpTo(16, SEGMENT);
             for (int c = 0; c < columns; c++) {
@@ -2419,13 +2435,16 @@ public final class CubeStore {
 
         void skipPart(Tape tape) {
             for (int left = beginReading(tape); left > 0; left -= SEGMENT) {
-                readSegment(tape, 0, cells);
+                tape.take(16);
+                for (int c = 0; c < columns; c++) {
+                    tape.skipColumn();
+                }
             }
         }
 
         void readFacts(Tape tape, Rows into) {
             for (int left = beginReading(tape); left > 0; left -= SEGMENT) {
-                int rows = Math.min(readSegment(tape, -1, cells), MOST_FACTS - into.size);
+                int rows = Math.min(readSegment(tape, ALL_COLUMNS, cells), MOST_FACTS - into.size);
                 for (int d = 0; d < places; d++) {
                     for (int i = 0; i < rows; i++) {
                         into.places[d][into.size + i] = (int) cells[d][i];
@@ -2438,18 +2457,41 @@ public final class CubeStore {
             }
         }
 
-        private void sumUp(Rows facts, Tape tape) {
-            beginPart(tape);
-            for (int i = 0; i < facts.size; i++) {
+        private void writeSegment(Tape tape) {
+            tape.put(size, 16);
+            for (int c = 0; c < columns; c++) {
+                tape.writeColumn(cells[c], size);
+            }
+        }
+
+        /** How many rows of the cells are not what the disk has, of which so many rows were read. */
+        private int wrongRows(int there) {
+            int wrong = 0;
+            for (int i = 0; i < size; i++) {
+                boolean isRight = i < there;
+                for (int c = 0; c < columns && isRight; c++) {
+                    isRight = cells[c][i] == diskCells[c][i];
+                }
+                wrong += isRight ? 0 : 1;
+            }
+            return wrong;
+        }
+
+        /** Fills the cells with one segment of a view's rows: which of the sorted facts is the next one then. */
+        private int sumUp(Rows facts, int from) {
+            size = 0;
+            for (int i = from; i < facts.size; i++) {
                 int row = facts.order[i];
-                if (i == 0 || !isSameRow(facts, row, facts.order[i - 1])) {
-                    makeRow(tape);
+                if (i > from && isSameRow(facts, row, facts.order[i - 1])) {
+                    addSums(facts, row);
+                } else if (size < SEGMENT) {
+                    size++;
                     beginSums(facts, row);
                 } else {
-                    addSums(facts, row);
+                    return i;
                 }
             }
-            endPart(tape);
+            return facts.size;
         }
 
         private boolean isSameRow(Rows facts, int a, int b) {
@@ -2465,14 +2507,15 @@ public final class CubeStore {
         }
 
         private void beginSums(Rows facts, int row) {
+            int last = size - 1;
             for (int d = 0; d < catalog.dimensions; d++) {
                 if (placeColumn[d] != NONE) {
-                    cells[placeColumn[d]][size - 1] = catalog.dimension[d].ranks[levels[d]][facts.places[d][row]];
+                    cells[placeColumn[d]][last] = catalog.dimension[d].ranks[levels[d]][facts.places[d][row]];
                 }
             }
-            cells[places][size - 1] = 1;
+            cells[places][last] = 1;
             for (int c = places + 1; c < columns; c++) {
-                cells[c][size - 1] = facts.amounts[(c - places - 1) / 3][row];
+                cells[c][last] = facts.amounts[(c - places - 1) / 3][row];
             }
         }
 
@@ -2485,60 +2528,6 @@ public final class CubeStore {
                 cells[c][last] += more;
                 cells[c + 1][last] = Math.min(cells[c + 1][last], more);
                 cells[c + 2][last] = Math.max(cells[c + 2][last], more);
-            }
-        }
-
-        private void beginPart(Tape tape) {
-            size = 0;
-            total = 0;
-            wrong = 0;
-            partPlace = tape.at;
-            if (isChecking) {
-                onDisk = beginReading(tape);
-            } else {
-                tape.put(0, 32);
-            }
-        }
-
-        private void makeRow(Tape tape) {
-            if (size == SEGMENT) {
-                endSegment(tape);
-            }
-            size++;
-            total++;
-        }
-
-        private void endPart(Tape tape) {
-            if (size > 0) {
-                endSegment(tape);
-            }
-            if (isChecking) {
-                wrong += Math.max(0, onDisk - total);
-            } else {
-                tape.fillIn(partPlace, total, 32);
-            }
-        }
-
-        private void endSegment(Tape tape) {
-            if (isChecking) {
-                checkSegment(tape);
-            } else {
-                tape.put(size, 16);
-                for (int c = 0; c < columns; c++) {
-                    tape.writeColumn(cells[c], size);
-                }
-            }
-            size = 0;
-        }
-
-        private void checkSegment(Tape tape) {
-            int there = total - size < onDisk ? readSegment(tape, -1, diskCells) : 0;
-            for (int i = 0; i < size; i++) {
-                boolean isRight = i < there;
-                for (int c = 0; c < columns && isRight; c++) {
-                    isRight = cells[c][i] == diskCells[c][i];
-                }
-                wrong += isRight ? 0 : 1;
             }
         }
     }
