@@ -13,6 +13,7 @@ final class Check {
         + "member shop(1,10,100),(2,10,100),(3,11,100),(4,20,200),(5,20,200);"
         + "member day(1,1),(2,1),(3,1),(31,2),(32,2);";
 
+    private static final int MOST_SAID = 30;
     private final String title;
     private int asked;
     private int wrong;
@@ -66,7 +67,9 @@ final class Check {
 
     private void say(String text) {
         wrong++;
-        System.out.println(title + ": " + text);
+        if (wrong <= MOST_SAID) {
+            System.out.println(title + ": " + text);
+        }
     }
 
     void end() {

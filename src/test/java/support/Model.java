@@ -439,7 +439,7 @@ final class Model {
         return 0;
     }
 
-    private List<long[]> factRows(List<Fact> facts) {
+    List<long[]> factRows(List<Fact> facts) {
         int dims = now.dims.size();
         List<Map<Integer, Integer>> places = new ArrayList<>();
         for (Dim d : now.dims) {
