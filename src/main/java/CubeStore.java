@@ -1507,11 +1507,14 @@ public final class CubeStore {
             }
         }
 
+        boolean asksFor(int dimension) {
+            return lowest[dimension] < MOST_LEVELS;
+        }
+
         /** Whether a view can answer the question. */
         boolean fits(int viewNumber) {
             for (int d = 0; d < catalog.dimensions; d++) {
-                int has = catalog.levelIn(viewNumber, d);
-                if (lowest[d] < MOST_LEVELS && has > lowest[d]) {
+                if (asksFor(d) && catalog.levelIn(viewNumber, d) > lowest[d]) {
                     return false;
                 }
             }
@@ -2355,11 +2358,13 @@ public final class CubeStore {
             return isView ? catalog.dimension[d].bearers[levels[d]][place] : place;
         }
 
-        /** The columns that a question must see, as bits: all places, and the amounts of its items. */
+        /** The columns that a question must see, as bits. */
         long columnsFor(Question question) {
-            long wanted = (1L << places) - 1;
-            if (isView) {
-                wanted |= 1L << places;
+            long wanted = isView ? 1L << places : 0;
+            for (int d = 0; d < catalog.dimensions; d++) {
+                if (placeColumn[d] != NONE && question.asksFor(d)) {
+                    wanted |= 1L << placeColumn[d];
+                }
             }
             for (int i = 0; i < question.items; i++) {
                 int kind = question.itemKind[i];

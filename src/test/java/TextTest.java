@@ -38,10 +38,25 @@ public final class TextTest {
         CHECK.due("3276 times 20", s.count(6), 65520);
         CHECK.state("feed beyond 65536", () -> s.feed(1, 2, 3, 4, 5));
         CHECK.due("refused feed changed nothing", s.count(6), 65520);
-        CHECK.due("trim 4", s.trim(4), 65516);
+        CHECK.due("trim 3", s.trim(3), 65517);
+        CHECK.state("feed up to 65537", () -> s.feed(1, 2, 3, 4, 5));
+        CHECK.due("trim 1", s.trim(1), 65516);
         CHECK.due("feed up to 65536", s.feed(0x20202020, 0x20202020, 0x20202020, 0x20202020, 0x20202020), 65536);
         CHECK.state("feed on a full text", () -> s.feed(0, 0, 0, 0, 0));
         CHECK.due("blanks alone", s.run(), 0);
+        for (int i = 1; i <= 3276; i++) {
+            s.feed(0x20202020, 0x20202020, 0x20202020, 0x20202020, 0x20202020);
+        }
+        s.trim(4);
+        s.feed(0x20202020, 0x20202020, 0x20202020, 0x20202020, 0x2020203c);
+        CHECK.due("a sign as the last byte", s.run(), 0);
+        CHECK.due("is another one", s.fault(0), 4);
+        CHECK.due("at the last place", s.fault(1), 65535);
+        Check.tell(s, "<=");
+        s.trim(1);
+        s.run();
+        Check.tell(s, "");
+        CHECK.due("nothing to run", s.run(), 0);
         CHECK.due("blanks have no fault", s.fault(0), 0);
         s.crash(0);
         CHECK.state("feed when DOWN", () -> s.feed(0, 0, 0, 0, 0));
@@ -130,6 +145,22 @@ public final class TextTest {
         CHECK.fault(s, "select count(*) where a.x < = 1;", 0, 4, 28);
         CHECK.fault(s, "select count(*) where a.x => 1;", 0, 4, 27);
         CHECK.fault(s, "select count(*) where a.x <>= 1;", 0, 4, 28);
+        Check.tell(s, "select count(*) where a.x <=");
+        s.trim(1);
+        s.run();
+        CHECK.due("what was trimmed is no part of a sign", s.fault(0), 3);
+        CHECK.due("the text ends before it", s.fault(1), 27);
+        CHECK.fault(s, "select count(*) where a.x <=", 0, 3, 28);
+        CHECK.fault(s, "select count(*) where a.x = 12", 0, 3, 30);
+        Check.tell(s, "select counts");
+        s.trim(1);
+        s.run();
+        CHECK.due("nor of a word", s.fault(0) * 100 + s.fault(1), 312);
+        Check.tell(s, "select count(*) where a.x = 2147483647;");
+        s.trim(1);
+        s.trim(1);
+        s.run();
+        CHECK.due("nor of a number", s.fault(0) * 100 + s.fault(1), 337);
         CHECK.fine(s, "select count(*) where a . x<>1;", 1);
         CHECK.fine(s, "select\tcount\r(\n* )where a.x<-1;", 1);
     }
@@ -314,6 +345,9 @@ public final class TextTest {
         CHECK.due("one of them", n.key(1, -1496), true);
         CHECK.due("none of them", n.key(1, 8), false);
         CHECK.due("a member of a refused statement", n.key(0, 6), false);
+        String thousand = "dimension c(x);member c" + Check.repeat("(1#)", 1000, ",");
+        CHECK.fault(new CubeStore(16), thousand + ",(0);", 1, 7, thousand.length() + 1);
+        CHECK.fine(new CubeStore(16), thousand + ";", 2);
     }
 
     private static void states() {
@@ -363,6 +397,8 @@ public final class TextTest {
         CHECK.fault(s, "select count(*) group by a.k, a.k.", 0, 10, 30);
         CHECK.fine(s, "select count(*) group by cube(a.k,a.l,a.m,a.n,b.k);", 1);
         CHECK.due("a cube of 5 has 32 sets", s.rows(), 32);
+        CHECK.fine(s, "select count(*) group by cube(a.k,a.l,a.m,a.n,b.k), b.l, b.m;", 1);
+        CHECK.due("columns add none", s.rows(), 32);
         CHECK.fault(s, "select count(*) group by cube(a.k,a.l,a.m,a.n,b.k,b.l);", 0, 7, 16);
         CHECK.fault(s, "select count(*) group by cube(a.k,a.l,a.m,a.n,b.k,b.l", 0, 3, 53);
         CHECK.fault(s, "select count(*) group by cube(a.k,a.l,a.m,a.n,b.k),rollup(b.l)", 0, 7, 16);

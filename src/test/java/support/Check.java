@@ -14,6 +14,7 @@ final class Check {
         + "member day(1,1),(2,1),(3,1),(31,2),(32,2);";
 
     private static final int MOST_SAID = 30;
+    private static final int MOST_CHARS = 250;
     private final String title;
     private int asked;
     private int wrong;
@@ -68,7 +69,8 @@ final class Check {
     private void say(String text) {
         wrong++;
         if (wrong <= MOST_SAID) {
-            System.out.println(title + ": " + text);
+            int most = Math.min(text.length(), MOST_CHARS);
+            System.out.println(title + ": .." + text.substring(text.length() - most));
         }
     }
 
