@@ -32,6 +32,8 @@ public final class CubeStore {
     private static final int MOST_VIEWS = 512;
     private static final int MOST_CHOSEN = 16;
     private static final int MOST_EXTENTS = 200;
+    private static final int LEAST_VALUE = 0x80000000;
+    private static final int GREATEST_VALUE = 0x7FFFFFFF;
     private static final int LEAST_BLOCKS = 16;
     private static final int MOST_BLOCKS = 512;
 
@@ -768,7 +770,7 @@ public final class CubeStore {
                 readDimension();
             } else if (text.kind == MEASURE) {
                 readMeasure();
-            } else {
+            } else if (text.kind == MEMBER) {
                 readMembers();
             }
         }
@@ -1009,9 +1011,9 @@ public final class CubeStore {
         /** Admits what = < > say; for <> >= <= these very values, as the comparison is turned then. */
         private void admitBeside(int kind, long number) {
             if (kind == '<' || kind == AT_LEAST) {
-                question.admit(Integer.MIN_VALUE, number - 1);
+                question.admit(LEAST_VALUE, number - 1);
             } else if (kind == '>' || kind == AT_MOST) {
-                question.admit(number + 1, Integer.MAX_VALUE);
+                question.admit(number + 1, GREATEST_VALUE);
             } else {
                 question.admit(number, number);
             }
