@@ -1,4 +1,6 @@
 import java.lang.reflect.Field;
+import java.util.Arrays;
+import java.util.Random;
 
 /** Promise 25: audit, also on a disk that was tampered with behind the store's back. */
 public final class AuditTest {
@@ -8,6 +10,7 @@ public final class AuditTest {
         refusals();
         afterAllChanges();
         tamperedRows();
+        eachWrongRow();
         blocksInTwo();
         CHECK.end();
     }
@@ -70,6 +73,67 @@ public final class AuditTest {
         }
         CHECK.due("noticed " + noticed + " of 128", noticed > 30, true);
         CHECK.due("all is well again", s.audit(), 0);
+    }
+
+    /** Where cells stand behind one another, 64 bits each, on a disk; bits count from the lowest of the first word. */
+    private static int find(long[] words, long... cells) {
+        for (int at = 0; at < (words.length - cells.length - 1) * 64; at += 8) {
+            int found = 0;
+            while (found < cells.length && cellAt(words, at + 64 * found) == cells[found]) {
+                found++;
+            }
+            if (found == cells.length) {
+                return at;
+            }
+        }
+        return -1;
+    }
+
+    private static long cellAt(long[] words, int at) {
+        int shift = at & 63;
+        return shift == 0 ? words[at >> 6] : words[at >> 6] >>> shift | words[(at >> 6) + 1] << 64 - shift;
+    }
+
+    /** "how many rows of views are not what the facts' rows give": a row with two wrong cells is one. */
+    private static void eachWrongRow() throws Exception {
+        CubeStore s = Check.opened(64, "dimension a(x);measure m;measure k;member a" + Check.repeat("(#)", 20, ",") + ";");
+        Random random = new Random(5);
+        long[][] amounts = new long[2][20];
+        for (int i = 0; i < 20; i++) {
+            for (int m = 0; m < 2; m++) {
+                amounts[m][i] = random.nextLong();
+                s.amount(m, amounts[m][i]);
+            }
+            s.key(0, i);
+            s.stage(2);
+        }
+        s.load();
+        CHECK.due("choose", s.choose(1), 1);
+        CHECK.due("the view of all", s.view(0, 0), 0);
+        CHECK.due("audit", s.audit(), 0);
+        long[] words = (long[]) inside(inside(s, "disk"), "words");
+        // Its extent lies at block 4; the least amounts of both measures stand there as they are.
+        long[] choice = Arrays.copyOfRange(words, 4 * 512, 5 * 512);
+        int first = find(choice, amounts[0]);
+        int second = find(choice, amounts[1]);
+        CHECK.due("both columns are found", first >= 0 && second >= 0, true);
+        int wrong = 0;
+        for (int i = 0; i < 20; i++) {
+            flip(words, 4 * 512 * 64 + first + 64 * i + 3);
+            CHECK.due("one more row is wrong", s.audit(), ++wrong);
+            flip(words, 4 * 512 * 64 + second + 64 * i + 40);
+            CHECK.due("it is wrong in two cells", s.audit(), wrong);
+        }
+        for (int i = 0; i < 20; i++) {
+            flip(words, 4 * 512 * 64 + first + 64 * i + 3);
+            CHECK.due("it is still wrong in one", s.audit(), wrong);
+            flip(words, 4 * 512 * 64 + second + 64 * i + 40);
+            CHECK.due("it is right again", s.audit(), --wrong);
+        }
+    }
+
+    private static void flip(long[] words, int bit) {
+        words[bit >> 6] ^= 1L << (bit & 63);
     }
 
     private static void blocksInTwo() throws Exception {

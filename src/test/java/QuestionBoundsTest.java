@@ -8,6 +8,8 @@ public final class QuestionBoundsTest {
         fortyNumbers();
         fortyBrackets();
         longConditions();
+        deepestConditions();
+        wholeSegments();
         eightGroupColumns();
         thirtyTwoSets();
         fourThousandRows();
@@ -136,6 +138,105 @@ public final class QuestionBoundsTest {
         CHECK.due("brackets of all conditions are closed at their end",
             Check.run(s, "select count(*) where " + deep.replace("#", "1") + ";select count(*) where " + deep.replace("#", "2") + ";"), 2);
         CHECK.due("the second one", s.cell(0, 0), 2);
+    }
+
+    /** All 60 comparisons and all 40 brackets at once: as much as can wait for what stands behind it, and as many nots. */
+    private static void deepestConditions() {
+        CubeStore s = numbers(64);
+        stageEach(s, 64);
+        StringBuilder deep = new StringBuilder();
+        for (int level = 0; level < 40; level++) {
+            deep.append("a.x=").append(level).append(level < 19 ? " or a.x>" + (level / 2) + " and not (" : " or not (");
+        }
+        deep.append("a.x<50").append(")".repeat(40));
+        CHECK.due("comparisons", deep.toString().split("a\\.x").length - 1, 60);
+        StringBuilder pairs = new StringBuilder();
+        for (int i = 0; i < 30; i++) {
+            pairs.append(i == 0 ? "" : " or ").append("not (not a.x=").append(i).append(" or not a.y=-").append(i).append(")");
+        }
+        CHECK.answers(s, "select count(*), max(m) where " + pairs + ";", 2, "30 129");
+        CHECK.answers(s, "select count(*), min(m) where not (" + pairs + ");", 2, "34 130");
+        StringBuilder due = new StringBuilder();
+        for (int x = 0; x < 64; x++) {
+            boolean holds = x < 50;
+            for (int level = 39; level >= 0; level--) {
+                holds = x == level || (level >= 19 || x > level / 2) && !holds;
+            }
+            due.append(!holds ? "" : (due.length() == 0 ? "" : " / ") + x);
+        }
+        CHECK.answers(s, "select a.x where " + deep + " group by a.x;", 1, due.toString());
+    }
+
+    /** "SEGMENTS of 1024 rows, but for the last one": facts and rows of views at just so many, with other parts behind. */
+    private static void wholeSegments() {
+        for (int rows : new int[] {1023, 1024, 1025, 2047, 2048, 2049}) {
+            CubeStore s = Check.opened(512, "dimension a(x,y);dimension b(z);measure m;member a" + Check.repeat("(#,3)", 1000, ",")
+                + ";member b(1),(2),(3);");
+            for (int i = 0; i < 3; i++) {
+                s.spread(4096, i);
+                s.load();
+            }
+            // Facts are chosen from so that the view of a.x and b.z has more than two segments, with others behind it.
+            CHECK.due("choose", s.choose(4), 4);
+            CHECK.due("the first has all", s.view(0, 0) * 10 + s.view(0, 1), 0);
+            s.spread(rows, 9);
+            s.load();
+            CHECK.due("audit", s.audit(), 0);
+            CHECK.answers(s, "select count(*);", 1, "" + (12288 + rows));
+            CHECK.answers(s, "select count(*) where a.x>=0 and b.z>0;", 1, "" + (12288 + rows));
+            CHECK.due("from the view of all", s.served(), 0);
+            s.settle();
+            CHECK.answers(s, "select count(*) where a.x>=0 and b.z>0;", 1, "" + (12288 + rows));
+            factsOfWholeSegments(rows);
+            viewOfWholeSegments(rows);
+        }
+    }
+
+    /** A load and a settling of so many facts; a view's part stands behind, that can't tell what is asked. */
+    private static void factsOfWholeSegments(int facts) {
+        CubeStore s = Check.opened(512, "dimension a(x);dimension b(z);measure m;member a(1),(2);member b" + Check.repeat("(#)", 1000, ",") + ";");
+        s.stage(3);
+        s.load();
+        CHECK.due("choose", s.choose(1), 1);
+        s.settle();
+        s.spread(facts, 1);
+        s.load();
+        CHECK.due("no column of b is in it", s.view(0, 1), 1);
+        for (int i = 0; i < 2; i++) {
+            String due = Check.answer(s, "select count(*), sum(m);", 2);
+            CHECK.due("from the view", s.served(), 0);
+            CHECK.due("facts", s.cell(0, 0), facts + 3);
+            CHECK.answers(s, "select count(*), sum(m) where b.z>=0;", 2, due);
+            CHECK.due("from the facts", s.served(), -1);
+            CHECK.due("audit", s.audit(), 0);
+            CHECK.due("settle", s.settle() > 1, true);
+        }
+    }
+
+    /** A view of so many rows, two facts each, and another view's part behind it. */
+    private static void viewOfWholeSegments(int rows) {
+        CubeStore s = Check.opened(512, "dimension a(x);dimension b(z);measure m;member a" + Check.repeat("(#)", 1000, ",") + ";member b(1),(2),(3);");
+        for (int i = 0; i < rows; i++) {
+            s.key(0, i % 1000);
+            s.key(1, 1 + i / 1000);
+            s.stage(2);
+        }
+        s.load();
+        if (rows < 2048) {
+            s.stage(1000);
+            s.stage(1000);
+            s.load();
+        }
+        CHECK.due("choose", s.choose(3) >= 2, true);
+        int all = s.count(1);
+        for (int i = 0; i < 2; i++) {
+            CHECK.answers(s, "select count(*) where a.x>=0 and b.z>0;", 1, "" + all);
+            CHECK.answers(s, "select count(*) where a.x>=0;", 1, "" + all);
+            CHECK.due("from a view", s.served() >= 0, true);
+            CHECK.answers(s, "select count(*) where b.z>0;", 1, "" + all);
+            CHECK.due("audit", s.audit(), 0);
+            s.settle();
+        }
     }
 
     /** "the question's GROUP COLUMNS, in their order, 8 at most, no two the same." */

@@ -25,6 +25,11 @@ public final class RulesTest {
         words(lines);
         methods(lines);
         classes();
+        List<Written> all = read(lines);
+        CHECK.due("methods are found: " + all.size(), all.size() > 150, true);
+        memory(all);
+        exceptions(all);
+        depth(all);
         CHECK.end();
     }
 
@@ -89,5 +94,105 @@ public final class RulesTest {
             }
             CHECK.due("fields of " + type + ": " + fields, fields <= 20, true);
         }
+    }
+
+    /** A method as it is written: its class, its name and its lines without comments. */
+    private static final class Written {
+        final String type;
+        final String name;
+        final StringBuilder body = new StringBuilder();
+        final List<Written> calls = new ArrayList<>();
+        /** How many calls stand open at once from here on; 0 as long as that is not known. */
+        int depth;
+        boolean isOpen;
+
+        Written(String type, String name) {
+            this.type = type;
+            this.name = name;
+        }
+
+        boolean isConstructor() {
+            return type.equals(name);
+        }
+    }
+
+    private static List<Written> read(List<String> lines) {
+        Pattern method = Pattern.compile("( {4}| {8})(?:(?:public|private|static|final) )*(?:[\\w\\[\\]]+ )?(\\w+)\\(.*\\)[\\w ,]* \\{");
+        Pattern type = Pattern.compile("( {0,4})(?:\\w+ )*class (\\w+) \\{");
+        List<Written> all = new ArrayList<>();
+        String now = "";
+        Written open = null;
+        String end = "";
+        for (String line : lines) {
+            Matcher newType = type.matcher(line);
+            Matcher newMethod = method.matcher(line);
+            if (newType.matches()) {
+                now = newType.group(2);
+            } else if (line.equals("    }") && open == null) {
+                now = "CubeStore";
+            } else if (open == null && newMethod.matches()) {
+                open = new Written(newMethod.group(1).length() == 4 ? "CubeStore" : now, newMethod.group(2));
+                end = newMethod.group(1) + "}";
+                all.add(open);
+            } else if (open != null && line.equals(end)) {
+                open = null;
+            } else if (open != null && !line.trim().startsWith("//")) {
+                open.body.append(line).append('\n');
+            }
+        }
+        return all;
+    }
+
+    /** "All memory is made at first": objects and arrays are made by constructors and fields alone. */
+    private static void memory(List<Written> all) {
+        for (Written m : all) {
+            boolean makes = m.body.toString().replace("throw new", "").contains("new ");
+            CHECK.due(m.type + "." + m.name + " makes something", makes && !m.isConstructor(), false);
+        }
+    }
+
+    /** Rule 6: no throw in a constructor, none in the method that holds the try. */
+    private static void exceptions(List<Written> all) {
+        for (Written m : all) {
+            boolean holds = m.body.indexOf("throw ") >= 0;
+            CHECK.due("throw in " + m.type + "." + m.name, holds && (m.isConstructor() || m.body.indexOf("try {") >= 0), false);
+        }
+    }
+
+    /** Rules 8 and 11: there is no recursion, and "calls that are no recursion go at most eight deep". */
+    private static void depth(List<Written> all) {
+        Pattern call = Pattern.compile("(\\.)?\\b(\\w+)\\(");
+        for (Written m : all) {
+            Matcher calls = call.matcher(m.body);
+            while (calls.find()) {
+                // A call of another object is one of another class: no class has two objects that call one another.
+                boolean isOther = calls.group(1) != null;
+                for (Written w : all) {
+                    if (w.name.equals(calls.group(2)) && w.type.equals(m.type) != isOther && !m.calls.contains(w)) {
+                        m.calls.add(w);
+                    }
+                }
+            }
+        }
+        for (Written m : all) {
+            CHECK.due("calls from " + m.type + "." + m.name + " on: " + depthOf(m), depthOf(m) <= 8, true);
+        }
+    }
+
+    private static int depthOf(Written m) {
+        if (m.isOpen) {
+            CHECK.due("a call of itself: " + m.type + "." + m.name, true, false);
+            return 1;
+        }
+        if (m.depth == 0) {
+            m.isOpen = true;
+            int deepest = 0;
+            for (Written other : m.calls) {
+                deepest = Math.max(deepest, depthOf(other));
+            }
+            m.isOpen = false;
+            m.depth = deepest + 1;
+        }
+        return m.depth;
     }
 }
