@@ -10,7 +10,8 @@ public final class FuzzTest {
     private static final String[] WORDS = {"dimension", "measure", "member", "select", "where", "group", "by", "rollup",
         "cube", "grouping", "sum", "count", "min", "max", "and", "or", "not", "between", "in", "a", "b", "c", "m", "n",
         "x", "y", "zzz", "Select", "a1_", "_", "(", ")", ",", ";", ".", "*", "=", "<", ">", "<=", ">=", "<>", "-", "-3",
-        "0", "7", "2147483647", "2147483648", "-2147483648", "-2147483649", "-21474836480", "21474836480", "00000000000000000012", "#", "\u00e9", "\t",
+        "0", "7", "2147483647", "2147483648", "-2147483648", "-2147483649", "-21474836480", "21474836480",
+        "00000000000000000012", "#", "\u00e9", "\t",
         "\n", "\r", " ", "abcdefghijklmnopqrstuvwxyzabcdefghijklmn", "abcdefghijklmnopqrstuvwxyzabcdefghijklmno"};
 
     private final Random random;
@@ -213,7 +214,9 @@ public final class FuzzTest {
         int dims = twin.model.now.dims.size();
         int measures = twin.model.now.measures.size();
         if (chance(50)) {
-            twin.spread(1 + random.nextInt(chance(10) ? 4096 : chance(50) ? 300 : 20), random.nextLong());
+            int whole = 1024 * (1 + random.nextInt(4)) - 1 + random.nextInt(3);
+            int n = chance(8) ? whole : 1 + random.nextInt(chance(10) ? 4096 : chance(50) ? 300 : 20);
+            twin.spread(n, random.nextLong());
             return;
         }
         int kind = random.nextInt(4);

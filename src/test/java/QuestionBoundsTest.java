@@ -215,7 +215,8 @@ public final class QuestionBoundsTest {
 
     /** A view of so many rows, two facts each, and another view's part behind it. */
     private static void viewOfWholeSegments(int rows) {
-        CubeStore s = Check.opened(512, "dimension a(x);dimension b(z);measure m;member a" + Check.repeat("(#)", 1000, ",") + ";member b(1),(2),(3);");
+        CubeStore s = Check.opened(512, "dimension a(x);dimension b(z);measure m;member a" + Check.repeat("(#)", 1000, ",")
+            + ";member b(1),(2),(3);");
         for (int i = 0; i < rows; i++) {
             s.key(0, i % 1000);
             s.key(1, 1 + i / 1000);
@@ -276,7 +277,8 @@ public final class QuestionBoundsTest {
         }
         CHECK.answers(s, "select " + items + " group by cube(a.k,a.l,a.m,a.n,b.k);", 11, due.toString());
         CHECK.answers(s, "select " + items + " group by cube(a.k,a.l),cube(a.m),rollup(a.n),cube(b.k);", 11, due.toString());
-        CHECK.answers(s, "select " + items + ",b.n group by cube(a.k,a.l,a.m),cube(a.n,b.k),b.n,b.m;", 12, due.toString().replace(" / ", " 1 / ") + " 1");
+        CHECK.answers(s, "select " + items + ",b.n group by cube(a.k,a.l,a.m),cube(a.n,b.k),b.n,b.m;", 12,
+            due.toString().replace(" / ", " 1 / ") + " 1");
     }
 
     /** "ROOM: the answer would have more than 4000 rows": 3 for each member of a, and one more for each pair with b.p. */

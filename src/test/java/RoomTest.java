@@ -1,8 +1,16 @@
 import java.lang.management.ManagementFactory;
+import java.lang.reflect.Array;
+import java.lang.reflect.Field;
+import java.lang.reflect.Modifier;
+import java.util.ArrayDeque;
+import java.util.Collections;
+import java.util.Deque;
+import java.util.IdentityHashMap;
+import java.util.Set;
 
 /** All memory is made at first: calls make next to nothing, and an object is far from filling the room. */
 public final class RoomTest {
-    public static void main(String[] args) {
+    public static void main(String[] args) throws IllegalAccessException {
         Check check = new Check("RoomTest");
         warmUp();
         long before = allocated();
@@ -27,7 +35,44 @@ public final class RoomTest {
         long calls = allocated() - before;
         check.due("calls took " + calls + " bytes", calls < 200_000, true);
         check.due("facts", s.count(1), 16000);
+        room(check, s);
         check.end();
+    }
+
+    /** All calls of a run live in one room of 600,000 objects and arrays, 7.3 million fields and elements. */
+    private static void room(Check check, CubeStore store) throws IllegalAccessException {
+        Set<Object> seen = Collections.newSetFromMap(new IdentityHashMap<>());
+        Deque<Object> left = new ArrayDeque<>();
+        left.add(store);
+        seen.add(store);
+        long elements = 0;
+        while (!left.isEmpty()) {
+            Object it = left.remove();
+            if (it.getClass().isArray()) {
+                elements += Array.getLength(it);
+                for (int i = 0; i < Array.getLength(it) && !it.getClass().getComponentType().isPrimitive(); i++) {
+                    look(Array.get(it, i), seen, left);
+                }
+                continue;
+            }
+            for (Field field : it.getClass().getDeclaredFields()) {
+                if (!Modifier.isStatic(field.getModifiers())) {
+                    field.setAccessible(true);
+                    elements++;
+                    if (!field.getType().isPrimitive()) {
+                        look(field.get(it), seen, left);
+                    }
+                }
+            }
+        }
+        check.due("objects and arrays: " + seen.size(), seen.size() < 2000, true);
+        check.due("fields and elements: " + elements, elements < 2_500_000, true);
+    }
+
+    private static void look(Object it, Set<Object> seen, Deque<Object> left) {
+        if (it != null && seen.add(it)) {
+            left.add(it);
+        }
     }
 
     private static void warmUp() {

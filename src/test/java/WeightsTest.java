@@ -300,7 +300,8 @@ public final class WeightsTest {
         due("STEPS of one step down", rising(1024, 5, -1_000_000_007L), 17);
         for (int bits : new int[] {1, 2, 7, 8, 9, 20, 33}) {
             due("STEPS of " + bits + " bits", climbing(1024, -77, 1L << 48, (1L << 48) + (1L << bits) - 1), 17 + bytes(1023L * bits));
-            due("STEPS of one more than " + bits + " bits", climbing(1024, -77, -(1L << 48), -(1L << 48) + (1L << bits)), 17 + bytes(1023L * (bits + 1)));
+            due("STEPS of one more than " + bits + " bits", climbing(1024, -77, -(1L << 48), -(1L << 48) + (1L << bits)),
+                17 + bytes(1023L * (bits + 1)));
         }
         for (int n : new int[] {1017, 1018, 1023}) {
             due("STEPS of 1 bit of " + n, climbing(n, 9, 1L << 48, (1L << 48) + 1), 17 + bytes(n - 1));
