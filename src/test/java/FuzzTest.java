@@ -38,7 +38,7 @@ public final class FuzzTest {
                 List<String> log = test.twin.log;
                 System.out.println("seed " + seed + ": " + test.twin.difference);
                 log.stream().filter(l -> !l.startsWith("feed") && !l.startsWith("count") && !l.startsWith("view")
-                    && !l.startsWith("cell") && !l.startsWith("isBlank")).skip(Math.max(0, 0)).limit(400)
+                    && !l.startsWith("cell") && !l.startsWith("isBlank")).limit(400)
                     .forEach(l -> System.out.println("    " + l));
             }
         }
