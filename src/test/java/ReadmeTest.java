@@ -1,9 +1,6 @@
-import java.io.ByteArrayOutputStream;
+import java.io.File;
 import java.io.IOException;
-import java.io.PrintStream;
 import java.lang.reflect.Method;
-import java.net.URL;
-import java.net.URLClassLoader;
 import java.nio.charset.StandardCharsets;
 import java.nio.file.Files;
 import java.nio.file.Path;
@@ -14,7 +11,6 @@ import java.util.regex.Matcher;
 import java.util.regex.Pattern;
 import java.util.stream.Collectors;
 import java.util.stream.Stream;
-import javax.tools.ToolProvider;
 
 /** README.md: its program prints what it says, its tables name all calls, all tests and all classes. */
 public final class ReadmeTest {
@@ -46,24 +42,18 @@ public final class ReadmeTest {
         Path directory = Files.createTempDirectory("readme");
         try {
             Path source = Files.writeString(directory.resolve("Example.java"), program);
-            String path = System.getProperty("java.class.path");
-            int fault = ToolProvider.getSystemJavaCompiler().run(null, null, null, "-cp", path, "-d", directory.toString(), source.toString());
-            return fault == 0 ? outputOf(directory) : "it does not compile";
+            String path = System.getProperty("java.class.path") + File.pathSeparator + directory;
+            String said = outputOf("javac", "-cp", path, "-d", directory.toString(), source.toString());
+            return said.isEmpty() ? outputOf("java", "-cp", path, "Example") : said;
         } finally {
             remove(directory);
         }
     }
 
-    private static String outputOf(Path directory) throws Exception {
-        PrintStream before = System.out;
-        ByteArrayOutputStream output = new ByteArrayOutputStream();
-        try (URLClassLoader loader = new URLClassLoader(new URL[] {directory.toUri().toURL()})) {
-            System.setOut(new PrintStream(output, true, StandardCharsets.UTF_8));
-            loader.loadClass("Example").getMethod("main", String[].class).invoke(null, (Object) new String[0]);
-        } finally {
-            System.setOut(before);
-        }
-        return output.toString(StandardCharsets.UTF_8).replace(System.lineSeparator(), "\n");
+    private static String outputOf(String... command) throws Exception {
+        Process process = new ProcessBuilder(command).redirectError(ProcessBuilder.Redirect.INHERIT).start();
+        String output = new String(process.getInputStream().readAllBytes(), StandardCharsets.UTF_8);
+        return process.waitFor() == 0 ? output.replace(System.lineSeparator(), "\n") : "failed: " + output;
     }
 
     private static void remove(Path directory) throws IOException {
